@@ -59,8 +59,8 @@ public final class RevisionedKeys {
     private final int[] leaseLength = new int[LEASES];
     private final int[] leaseEnd = new int[LEASES];
 
-    // A watch's place is the least revision and key that it may hand out next. It names no index, so
-    // it stays right when changes are forgotten, and may lie at a revision that is not yet.
+    // A watch's place is the least revision and key that it may hand out next. It names no index,
+    // so it stays right when changes are forgotten, and may lie at a revision that is not yet.
     private final int[] watchState = new int[WATCHES];
     private final int[] watchFirstKey = new int[WATCHES];
     private final int[] watchLastKey = new int[WATCHES];
@@ -166,11 +166,8 @@ public final class RevisionedKeys {
     }
 
     public int count(int a, int b, int r) {
-        if (!isRange(a, b)) {
-            return BAD_ARG;
-        }
         int at = revisionMeant(r);
-        int refusal = refusalOfRevision(at);
+        int refusal = refusalOfRangeAt(a, b, at);
         if (refusal != ALLOWED) {
             return refusal;
         }
@@ -184,11 +181,8 @@ public final class RevisionedKeys {
     }
 
     public int keyAt(int a, int b, int i, int r) {
-        if (!isRange(a, b)) {
-            return BAD_ARG;
-        }
         int at = revisionMeant(r);
-        int refusal = refusalOfRevision(at);
+        int refusal = refusalOfRangeAt(a, b, at);
         if (refusal != ALLOWED) {
             return refusal;
         }
@@ -389,6 +383,10 @@ public final class RevisionedKeys {
         return r > presentRevision ? LATER : ALLOWED;
     }
 
+    private int refusalOfRangeAt(int a, int b, int r) {
+        return isRange(a, b) ? refusalOfRevision(r) : BAD_ARG;
+    }
+
     private int refusalOfHandingOut(int w) {
         if (!isWatch(w)) {
             return BAD_ARG;
@@ -441,6 +439,7 @@ public final class RevisionedKeys {
     }
 
     private void remember(int k, boolean isPut, int x) {
+        // Never so, as said at CHANGE_ROOM, but then the indexes below need no proof to be safe.
         if (changes >= CHANGE_ROOM) {
             return;
         }

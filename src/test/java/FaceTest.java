@@ -129,7 +129,8 @@ public final class FaceTest {
     private static void words(String code) {
         due.about("rules 2, 3 and 6");
         for (String word : setOf(WORDS_NOT_USED)) {
-            due.holds(word + " is not used", !Pattern.compile("\\b" + word + "\\b").matcher(code).find());
+            boolean used = Pattern.compile("\\b" + word + "\\b").matcher(code).find();
+            due.holds(word + " is not used", !used);
         }
         due.holds("no lambda", !code.contains("->"));
         due.holds("no method reference", !code.contains("::"));
@@ -139,13 +140,10 @@ public final class FaceTest {
 
     private static void objectsMade(String code) {
         due.about("rule 4");
-        Pattern field = Pattern.compile(
-                "(?m)^    private final (\\w+)\\[\\] \\w+ = new \\1\\[[A-Z_]+\\];$");
-        Matcher any = Pattern.compile("\\bnew\\b").matcher(code);
-        Matcher allowed = field.matcher(code);
-        int anyFound = (int) any.results().count();
-        int allowedFound = (int) allowed.results().count();
-        due.is("all that is made is the arrays of the fields", anyFound, allowedFound);
+        String field = "(?m)^    private final (\\w+)\\[\\] \\w+ = new \\1\\[[A-Z_]+\\];$";
+        int made = (int) Pattern.compile("\\bnew\\b").matcher(code).results().count();
+        int arrays = (int) Pattern.compile(field).matcher(code).results().count();
+        due.is("all that is made is the arrays of the fields", made, arrays);
     }
 
     private static void callsInArguments(String code) {

@@ -263,6 +263,11 @@ public final class LeasesTest {
         due.is("all keys end", x.revoke(0), 16);
         due.is("remembered", x.remembered(), 116);
         due.is("waiting", x.waiting(0), 116);
+        for (int i = 1; i <= 116; i++) {
+            due.is("next", x.next(0), i <= 100 ? i : 101);
+        }
+        due.is("the last key", x.handed(0, 0), 15);
+        due.is("no more", x.next(0), Due.NONE);
         due.is("count", x.count(0, 15, 101), 0);
         due.is("count", x.count(0, 15, 100), 16);
         due.is("compact", x.compact(100), 16);

@@ -282,7 +282,7 @@ final class Model {
                 ends.add(new int[] {lease.end, l});
             }
         });
-        ends.sort((p, q) -> p[0] != q[0] ? Integer.compare(p[0], q[0]) : Integer.compare(p[1], q[1]));
+        ends.sort((p, q) -> Integer.compare(p[0] * 8 + p[1], q[0] * 8 + q[1]));
         for (int[] end : ends) {
             revoke(end[1]);
         }

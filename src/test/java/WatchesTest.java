@@ -234,6 +234,7 @@ public final class WatchesTest {
         due.is("not in use", x.handed(0, 0), Due.NONE);
         due.is("anew", x.watch(0, 0, 15, 1), 0);
         due.is("the new one handed none out", x.handed(0, 0), Due.NONE);
+        due.is("the new one hands out what the old one did", x.next(0), 1);
     }
 
     private static void handedAfterForgetting() {
