@@ -7,7 +7,9 @@ import java.nio.file.Files;
 import java.nio.file.Path;
 import java.util.Arrays;
 import java.util.HashSet;
+import java.util.Map;
 import java.util.Set;
+import java.util.TreeMap;
 import java.util.TreeSet;
 import java.util.regex.Matcher;
 import java.util.regex.Pattern;
@@ -36,7 +38,10 @@ public final class FaceTest {
         String code = withoutComments(text);
         words(code);
         objectsMade(code);
+        loops(code);
         callsInArguments(code);
+        sizeOfMethods(code);
+        depthOfCalls(code);
         due.end();
     }
 
@@ -144,6 +149,65 @@ public final class FaceTest {
         int made = (int) Pattern.compile("\\bnew\\b").matcher(code).results().count();
         int arrays = (int) Pattern.compile(field).matcher(code).results().count();
         due.is("all that is made is the arrays of the fields", made, arrays);
+    }
+
+    private static void loops(String code) {
+        due.about("rule 8");
+        String counted = "for \\(int (\\w+) = [^;]+; \\1 <=? [^;]+; \\1\\+\\+\\) \\{";
+        int loops = (int) Pattern.compile("\\b(for|while|do)\\b").matcher(code).results().count();
+        int bounded = (int) Pattern.compile(counted).matcher(code).results().count();
+        due.is("loops with a counter against a bound", bounded, loops);
+    }
+
+    /** Each method's lines, by its name; the constructor is among them. */
+    private static Map<String, String> bodies(String code) {
+        Map<String, String> bodies = new TreeMap<>();
+        String head = "(?ms)^    (?:public|private)[^=;{]*?(\\w+)\\([^)]*\\) \\{$(.*?)^    \\}$";
+        Matcher methods = Pattern.compile(head).matcher(code);
+        while (methods.find()) {
+            bodies.put(methods.group(1), methods.group(2));
+        }
+        return bodies;
+    }
+
+    private static void sizeOfMethods(String code) {
+        due.about("rule 10");
+        Map<String, String> bodies = bodies(code);
+        int declared = RevisionedKeys.class.getDeclaredMethods().length;
+        due.is("methods found, and the constructor", bodies.size(), declared + 1);
+        bodies.forEach((name, body) ->
+                due.holds(name + " is short", body.lines().count() <= 60));
+    }
+
+    private static void depthOfCalls(String code) {
+        due.about("rules 8 and 10");
+        Map<String, String> bodies = bodies(code);
+        Map<String, Integer> depths = new TreeMap<>();
+        // A method is as deep as the deepest that it calls, and one more; one that calls itself,
+        // also through others, never gets a depth.
+        for (int round = 1; round <= bodies.size(); round++) {
+            bodies.forEach((name, body) -> {
+                Set<String> called = calledIn(body, bodies.keySet());
+                if (depths.keySet().containsAll(called)) {
+                    depths.put(name, 1 + called.stream().mapToInt(depths::get).max().orElse(0));
+                }
+            });
+        }
+        for (String name : bodies.keySet()) {
+            due.holds(name + " is not recursive", depths.containsKey(name));
+            due.holds(name + " calls at most six deep", depths.getOrDefault(name, 0) <= 6);
+        }
+    }
+
+    private static Set<String> calledIn(String body, Set<String> names) {
+        Set<String> called = new TreeSet<>();
+        Matcher calls = Pattern.compile("\\b(\\w+)\\(").matcher(body);
+        while (calls.find()) {
+            if (names.contains(calls.group(1))) {
+                called.add(calls.group(1));
+            }
+        }
+        return called;
     }
 
     private static void callsInArguments(String code) {

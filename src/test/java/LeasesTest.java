@@ -1,276 +1,199 @@
-/** Promises 15 to 20: grant, renew, revoke, remaining, keysOf, advance. */
+/** Promises 15 to 20, each by its sentences: grant, renew, revoke, remaining, keysOf, advance. */
 public final class LeasesTest {
     private static final Due due = new Due();
 
-    public static void main(String[] args) {
-        grantOrdinary();
-        grantRefusals();
-        renewOrdinary();
-        revokeOrdinary();
-        remainingOrdinary();
-        keysOfOrdinary();
-        advanceOrdinary();
-        advanceOrder();
-        advanceOrderAtOneTime();
-        advanceRefusals();
-        endingIsNeverRefused();
-        mostThatCanBeRemembered();
-        due.end();
+    public static void main(String[] args) throws ReflectiveOperationException {
+        due.runAll(LeasesTest.class);
     }
 
-    private static void grantOrdinary() {
-        due.about("promise 15");
-        RevisionedKeys x = new RevisionedKeys();
-        due.is("shortest", x.grant(0, 1), 1);
-        due.is("longest", x.grant(5, 50), 50);
-        due.is("advance", x.advance(7), 1);
-        due.is("from now on", x.grant(1, 3), 10);
-        due.is("one that has ended", x.grant(0, 2), 9);
-        due.is("remaining", x.remaining(0), 2);
-        due.is("open one can be put under", x.put(0, 1, 0), 1);
-        due.is("revoke", x.revoke(0), 1);
-        due.is("one that was revoked", x.grant(0, 9), 16);
-        due.is("its keys are not there again", x.keysOf(0), 0);
+    private static Story story(int promise, String sentence) {
+        return new Story(due, promise, sentence);
     }
 
-    private static void grantRefusals() {
-        due.about("promise 15, refusals");
-        RevisionedKeys x = new RevisionedKeys();
-        due.is("lease -1", x.grant(-1, 1), Due.BAD_ARG);
-        due.is("lease 6", x.grant(6, 1), Due.BAD_ARG);
-        due.is("length 0", x.grant(0, 0), Due.BAD_ARG);
-        due.is("length 51", x.grant(0, 51), Due.BAD_ARG);
-        due.is("length -1", x.grant(0, -1), Due.BAD_ARG);
+    static void grantOpensFromNowOn() {
+        Story s = story(15, "Lease l is open from now on, with this length");
+        s.is(3, "grant", 0, 3).is(50, "grant", 5, 50).is(1, "put", 4, 5, 0).is(2, "put", 5, 5, 5);
+        s.is(3, "remaining", 0).is(1, "keysOf", 0).is(0, "advance", 2).is(5, "renew", 0);
+    }
+
+    static void grantEndsThatLongFromNowOn() {
+        Story s = story(15, "it ends that long from now on").is(0, "advance", 7);
+        s.is(10, "grant", 1, 3).is(1, "put", 4, 5, 1).is(0, "advance", 2).is(5, "value", 4, -1);
+        s.is(1, "advance", 1).changesNothing(Due.NONE, "value", 4, -1);
+    }
+
+    static void grantOfTheShortestAndTheLongest() {
+        Story s = story(15, "length not 1 to 50 answers BAD_ARG").is(1, "grant", 0, 1);
+        s.is(50, "grant", 1, 50).is(1, "advance", 1).is(0, "advance", 48).is(1, "advance", 1);
+    }
+
+    static void grantRefusesALengthOutOfRange() {
+        Story s = story(15, "length not 1 to 50 answers BAD_ARG");
+        s.changesNothing(Due.BAD_ARG, "grant", 0, 0).changesNothing(Due.BAD_ARG, "grant", 0, 51);
+        s.changesNothing(Due.BAD_ARG, "grant", 5, -1);
         for (int wild : Due.WILD) {
-            due.is("wild lease", x.grant(wild, 1), Due.BAD_ARG);
-            due.is("wild length", x.grant(0, wild), wild == 17 ? 17 : Due.BAD_ARG);
+            s.changesNothing(Due.BAD_ARG, "grant", 3, wild);
         }
-        due.is("open", x.grant(0, 3), Due.BUSY);
-        due.is("BAD_ARG before BUSY", x.grant(0, 0), Due.BAD_ARG);
-        due.is("BAD_ARG before BUSY", x.grant(0, 51), Due.BAD_ARG);
-        due.is("nothing was changed", x.remaining(0), 17);
-        due.is("nothing was changed", x.renew(0), 17);
     }
 
-    private static void renewOrdinary() {
-        due.about("promise 16");
-        RevisionedKeys x = new RevisionedKeys();
-        due.is("grant", x.grant(3, 10), 10);
-        due.is("put", x.put(1, 1, 3), 1);
-        due.is("at once", x.renew(3), 10);
-        due.is("advance", x.advance(9), 0);
-        due.is("its length from now on", x.renew(3), 19);
-        due.is("not at its first end", x.advance(9), 0);
-        due.is("remaining", x.remaining(3), 1);
-        due.is("at its new end", x.advance(1), 1);
-        due.is("its key is erased", x.value(1, -1), Due.NONE);
-        due.is("ended", x.renew(3), Due.NONE);
-        due.is("never open", x.renew(4), Due.NONE);
-        due.is("another length", x.grant(3, 4), 23);
-        due.is("advance", x.advance(1), 0);
-        due.is("the new length counts", x.renew(3), 24);
-        due.is("lease -1", x.renew(-1), Due.BAD_ARG);
-        due.is("lease 6", x.renew(6), Due.BAD_ARG);
+    static void grantRefusesAnOpenLease() {
+        Story s = story(15, "BUSY").is(9, "grant", 0, 9).is(1, "put", 4, 5, 0);
+        s.changesNothing(Due.BUSY, "grant", 0, 9).changesNothing(Due.BUSY, "grant", 0, 3);
+        s.is(0, "advance", 8).changesNothing(Due.BUSY, "grant", 0, 50).is(17, "renew", 0);
+        s.changesNothing(Due.BUSY, "grant", 0, 1).is(9, "grant", 1, 1);
+    }
+
+    static void grantOfALeaseThatHasEndedIsAllowed() {
+        Story s = story(15, "BUSY").is(9, "grant", 0, 9).is(1, "put", 4, 5, 0).is(1, "advance", 9);
+        s.is(11, "grant", 0, 2).is(0, "keysOf", 0).is(2, "remaining", 0).is(0, "revoke", 0);
+        s.is(13, "grant", 0, 4).is(13, "renew", 0);
+    }
+
+    static void grantTestsInOrder() {
+        Story s = story(15, "Tested in this order: length not 1 to 50 answers BAD_ARG; BUSY.");
+        s.is(9, "grant", 0, 9).changesNothing(Due.BAD_ARG, "grant", 0, 0);
+        s.changesNothing(Due.BAD_ARG, "grant", 0, 51).changesNothing(Due.BUSY, "grant", 0, 1);
+        s.changesNothing(Due.BUSY, "grant", 0, 50);
+    }
+
+    static void grantAnswersTheTimeAtWhichItEnds() {
+        Story s = story(15, "Otherwise the time at which it ends.").is(4, "grant", 0, 4);
+        s.is(1, "advance", 100).is(101, "grant", 0, 1).is(150, "grant", 1, 50);
+    }
+
+    static void renewEndsItsLengthFromNowOn() {
+        Story s = story(16, "Lease l ends its length from now on, instead of when it would.");
+        s.is(10, "grant", 3, 10).is(1, "put", 1, 5, 3).is(10, "renew", 3).is(0, "advance", 9);
+        s.is(19, "renew", 3).is(10, "remaining", 3).is(0, "advance", 9).is(1, "remaining", 3);
+        s.is(5, "value", 1, -1).is(1, "advance", 1).changesNothing(Due.NONE, "value", 1, -1);
+    }
+
+    static void renewTakesTheLengthOfTheLastGrant() {
+        Story s = story(16, "Lease l ends its length from now on").is(10, "grant", 3, 10);
+        s.is(40, "grant", 4, 40).is(0, "revoke", 3).is(4, "grant", 3, 4).is(0, "advance", 1);
+        s.is(5, "renew", 3).is(41, "renew", 4);
+    }
+
+    static void renewRefusesALeaseThatIsNotOpen() {
+        Story s = story(16, "NONE if it is not open.").is(3, "grant", 1, 3).is(9, "grant", 2, 9);
+        s.changesNothing(Due.NONE, "renew", 0).changesNothing(Due.NONE, "renew", 5);
+        s.is(1, "advance", 3).changesNothing(Due.NONE, "renew", 1).is(0, "revoke", 2);
+        s.changesNothing(Due.NONE, "renew", 2).is(0, "advance", 100);
+    }
+
+    static void renewAnswersTheTimeAtWhichItEnds() {
+        Story s = story(16, "Otherwise the time at which it ends.").is(50, "grant", 0, 50);
+        s.is(0, "advance", 49).is(99, "renew", 0).is(0, "advance", 49).is(148, "renew", 0);
+    }
+
+    static void revokeEndsTheLeaseNow() {
+        Story s = story(17, "Lease l ends now.").is(9, "grant", 2, 9).is(9, "grant", 3, 9);
+        s.is(1, "put", 9, 5, 2).is(2, "put", 3, 5, 2).is(3, "put", 6, 5, -1).is(4, "put", 7, 5, 3);
+        s.is(0, "watch", 0, 0, 15, -1).is(2, "revoke", 2).is(5, "revision").is(6, "remembered");
+        s.is(5, "next", 0).is(3, "handed", 0, 0).is(5, "next", 0).is(9, "handed", 0, 0);
+        s.changesNothing(Due.NONE, "remaining", 2).changesNothing(Due.NONE, "put", 0, 5, 2);
+        s.is(5, "value", 6, -1).is(5, "value", 7, -1).is(1, "advance", 9);
+    }
+
+    static void revokeRefusesALeaseThatIsNotOpen() {
+        Story s = story(17, "NONE if it is not open.").is(3, "grant", 1, 3).is(9, "grant", 2, 9);
+        s.is(1, "put", 4, 5, 1).is(2, "put", 5, 5, 2).is(3, "put", 6, 5, -1);
+        s.changesNothing(Due.NONE, "revoke", 0).changesNothing(Due.NONE, "revoke", 5);
+        s.is(1, "advance", 3).changesNothing(Due.NONE, "revoke", 1).is(1, "revoke", 2);
+        s.changesNothing(Due.NONE, "revoke", 2);
+    }
+
+    static void revokeAnswersHowManyKeysAreErased() {
+        Story s = story(17, "Otherwise how many keys are erased.").is(9, "grant", 0, 9);
+        s.is(0, "revoke", 0).is(0, "revision").is(9, "grant", 0, 9).is(1, "put", 4, 5, 0);
+        s.is(1, "revoke", 0).is(2, "revision").is(9, "grant", 0, 9);
+        for (int k = 0; k <= 15; k++) {
+            s.is(3 + k, "put", k, 5, 0);
+        }
+        s.is(16, "revoke", 0).is(19, "revision").is(34, "remembered");
+    }
+
+    static void remainingIsTheTimeUntilTheEnd() {
+        Story s = story(18, "The time until open lease l ends").is(20, "grant", 1, 20);
+        s.is(20, "remaining", 1).is(0, "advance", 0).is(20, "remaining", 1).is(0, "advance", 19);
+        s.is(1, "remaining", 1).is(39, "renew", 1).is(20, "remaining", 1).is(0, "advance", 7);
+        s.is(13, "remaining", 1).is(27, "grant", 0, 1).is(1, "remaining", 0);
+    }
+
+    static void remainingRefusesALeaseThatIsNotOpen() {
+        Story s = story(18, "NONE if it is not open").is(3, "grant", 1, 3).is(9, "grant", 2, 9);
+        s.changesNothing(Due.NONE, "remaining", 0).changesNothing(Due.NONE, "remaining", 5);
+        s.is(1, "advance", 3).changesNothing(Due.NONE, "remaining", 1).is(0, "revoke", 2);
+        s.changesNothing(Due.NONE, "remaining", 2);
+    }
+
+    static void keysOfCountsTheKeysThatStandUnderIt() {
+        Story s = story(19, "The number of keys that stand under lease l").is(5, "grant", 0, 5);
+        s.is(6, "grant", 5, 6).is(0, "keysOf", 0).is(1, "put", 0, 5, 0).is(2, "put", 15, 5, 0);
+        s.is(3, "put", 7, 5, 5).is(4, "put", 8, 5, -1).is(2, "keysOf", 0).is(1, "keysOf", 5);
+        s.is(5, "put", 0, 6, 0).is(2, "keysOf", 0).is(6, "put", 0, 6, 5).is(1, "keysOf", 0);
+        s.is(2, "keysOf", 5).is(1, "erase", 7, 7).is(1, "keysOf", 5).is(8, "put", 0, 6, -1);
+        s.is(0, "keysOf", 5);
+    }
+
+    static void keysOfCanBeAllKeys() {
+        Story s = story(19, "The number of keys that stand under lease l").is(5, "grant", 0, 5);
+        for (int k = 0; k <= 15; k++) {
+            s.is(1 + k, "put", k, 5, 0);
+        }
+        s.is(16, "keysOf", 0);
+    }
+
+    static void keysOfIsZeroIfItIsNotOpen() {
+        Story s = story(19, "0 if it is not open").changesNothing(0, "keysOf", 0);
+        s.changesNothing(0, "keysOf", 5).is(3, "grant", 1, 3).is(9, "grant", 2, 9);
+        s.is(1, "put", 4, 5, 1).is(2, "put", 5, 5, 2).is(3, "put", 6, 5, -1);
+        s.changesNothing(0, "keysOf", 0).is(1, "advance", 3).changesNothing(0, "keysOf", 1);
+        s.is(1, "revoke", 2).changesNothing(0, "keysOf", 2);
+    }
+
+    static void advanceGoesOnByN() {
+        Story s = story(20, "Time goes on by n.").is(0, "advance", 0).is(50, "grant", 0, 50);
+        s.is(0, "advance", 1).is(49, "remaining", 0).is(0, "advance", 7).is(42, "remaining", 0);
+        s.is(1, "advance", 100).is(109, "grant", 0, 1).is(1, "advance", 1).is(110, "grant", 0, 1);
+    }
+
+    static void advanceOfZeroAndOfAHundred() {
+        Story s = story(20, "BAD_ARG if n is not 0 to 100.").is(50, "grant", 0, 50);
+        s.changesNothing(0, "advance", 0).is(1, "advance", 100).is(101, "grant", 0, 1);
+        s.changesNothing(0, "advance", 0);
+    }
+
+    static void advanceRefusesATimeOutOfRange() {
+        Story s = story(20, "BAD_ARG if n is not 0 to 100.").is(1, "grant", 0, 1);
+        s.is(1, "put", 4, 5, 0).changesNothing(Due.BAD_ARG, "advance", -1);
+        s.changesNothing(Due.BAD_ARG, "advance", 101);
         for (int wild : Due.WILD) {
-            due.is("wild lease", x.renew(wild), Due.BAD_ARG);
+            s.changesNothing(Due.BAD_ARG, "advance", wild);
         }
     }
 
-    private static void revokeOrdinary() {
-        due.about("promise 17");
-        RevisionedKeys x = new RevisionedKeys();
-        due.is("grant", x.grant(2, 5), 5);
-        due.is("grant", x.grant(4, 5), 5);
-        due.is("no keys", x.revoke(4), 0);
-        due.is("no writing", x.revision(), 0);
-        due.is("not open now", x.revoke(4), Due.NONE);
-        due.is("put 9", x.put(9, 1, 2), 1);
-        due.is("put 3", x.put(3, 1, 2), 2);
-        due.is("put 6", x.put(6, 1, -1), 3);
-        due.is("watch", x.watch(0, 0, 15, -1), 0);
-        due.is("two keys", x.revoke(2), 2);
-        due.is("one writing", x.revision(), 4);
-        due.is("two changes", x.remembered(), 5);
-        due.is("the other key stays", x.value(6, -1), 1);
-        due.is("by key", x.next(0), 4);
-        due.is("by key", x.handed(0, 0), 3);
-        due.is("by key", x.next(0), 4);
-        due.is("by key", x.handed(0, 0), 9);
-        due.is("no more", x.next(0), Due.NONE);
-        due.is("not open now", x.revoke(2), Due.NONE);
-        due.is("not open now", x.remaining(2), Due.NONE);
-        due.is("put under it", x.put(0, 1, 2), Due.NONE);
-        due.is("does not end again", x.advance(100), 0);
-        due.is("lease -1", x.revoke(-1), Due.BAD_ARG);
-        due.is("lease 6", x.revoke(6), Due.BAD_ARG);
-        for (int wild : Due.WILD) {
-            due.is("wild lease", x.revoke(wild), Due.BAD_ARG);
+    static void advanceAnswersTheNumberOfLeasesThatEnd() {
+        Story s = story(20, "Otherwise the number of leases that end.");
+        for (int l = 0; l <= 5; l++) {
+            s.is(l + 1, "grant", l, l + 1);
         }
+        s.is(1, "put", 3, 5, 3).is(2, "put", 4, 5, 3).is(0, "advance", 0).is(1, "advance", 1);
+        s.is(2, "advance", 2).is(2, "revision").is(0, "advance", 0).is(1, "advance", 1);
+        s.is(3, "revision").is(2, "advance", 100).is(3, "revision").is(0, "advance", 100);
     }
 
-    private static void remainingOrdinary() {
-        due.about("promise 18");
-        RevisionedKeys x = new RevisionedKeys();
-        due.is("never open", x.remaining(1), Due.NONE);
-        due.is("grant", x.grant(1, 20), 20);
-        due.is("whole", x.remaining(1), 20);
-        due.is("advance", x.advance(19), 0);
-        due.is("the last", x.remaining(1), 1);
-        due.is("renew", x.renew(1), 39);
-        due.is("whole again", x.remaining(1), 20);
-        due.is("advance", x.advance(20), 1);
-        due.is("ended", x.remaining(1), Due.NONE);
-        due.is("lease -1", x.remaining(-1), Due.BAD_ARG);
-        due.is("lease 6", x.remaining(6), Due.BAD_ARG);
-        for (int wild : Due.WILD) {
-            due.is("wild lease", x.remaining(wild), Due.BAD_ARG);
-        }
+    static void advanceEndsALeaseAtItsEndAndNotBefore() {
+        Story s = story(20, "Otherwise the number of leases that end.").is(50, "grant", 0, 50);
+        s.is(1, "put", 4, 5, 0).is(0, "advance", 49).is(5, "value", 4, -1).is(1, "advance", 1);
+        s.changesNothing(Due.NONE, "value", 4, -1).is(100, "grant", 0, 50).is(1, "advance", 50);
     }
 
-    private static void keysOfOrdinary() {
-        due.about("promise 19");
-        RevisionedKeys x = new RevisionedKeys();
-        due.is("not open", x.keysOf(0), 0);
-        due.is("grant", x.grant(0, 5), 5);
-        due.is("grant", x.grant(5, 6), 6);
-        due.is("none yet", x.keysOf(0), 0);
-        due.is("put 0", x.put(0, 1, 0), 1);
-        due.is("put 15", x.put(15, 1, 0), 2);
-        due.is("put 7", x.put(7, 1, 5), 3);
-        due.is("put 8", x.put(8, 1, -1), 4);
-        due.is("two", x.keysOf(0), 2);
-        due.is("one", x.keysOf(5), 1);
-        due.is("put again", x.put(0, 2, 0), 5);
-        due.is("still two", x.keysOf(0), 2);
-        due.is("to the other", x.put(0, 2, 5), 6);
-        due.is("one", x.keysOf(0), 1);
-        due.is("two", x.keysOf(5), 2);
-        due.is("erase", x.erase(7, 7), 1);
-        due.is("one", x.keysOf(5), 1);
-        due.is("advance", x.advance(5), 1);
-        due.is("ended", x.keysOf(0), 0);
-        due.is("open", x.keysOf(5), 1);
-        due.is("lease -1", x.keysOf(-1), Due.BAD_ARG);
-        due.is("lease 6", x.keysOf(6), Due.BAD_ARG);
-        for (int wild : Due.WILD) {
-            due.is("wild lease", x.keysOf(wild), Due.BAD_ARG);
+    static void advanceEndsAllSixAtOnce() {
+        Story s = story(20, "Otherwise the number of leases that end.");
+        for (int l = 0; l <= 5; l++) {
+            s.is(8, "grant", l, 8).is(l + 1, "put", 2 * l, 5, l);
         }
-    }
-
-    private static void advanceOrdinary() {
-        due.about("promise 20");
-        RevisionedKeys x = new RevisionedKeys();
-        for (int l = 0; l < 6; l++) {
-            due.is("grant", x.grant(l, l + 1), l + 1);
-        }
-        due.is("put", x.put(3, 1, 3), 1);
-        due.is("no time", x.advance(0), 0);
-        due.is("one ends", x.advance(1), 1);
-        due.is("two end", x.advance(2), 2);
-        due.is("without keys no writing", x.revision(), 1);
-        due.is("the key is there", x.value(3, -1), 1);
-        due.is("no time", x.advance(0), 0);
-        due.is("all others end", x.advance(100), 3);
-        due.is("one writing", x.revision(), 2);
-        due.is("the key is not", x.value(3, -1), Due.NONE);
-        due.is("time is 103", x.grant(0, 1), 104);
-        due.is("advance", x.advance(100), 1);
-        due.is("time is 203", x.grant(0, 50), 253);
-    }
-
-    private static void advanceOrder() {
-        due.about("promise 20, order of times");
-        RevisionedKeys x = new RevisionedKeys();
-        due.is("grant", x.grant(0, 9), 9);
-        due.is("grant", x.grant(1, 8), 8);
-        due.is("put", x.put(5, 1, 0), 1);
-        due.is("put", x.put(6, 1, 1), 2);
-        due.is("watch", x.watch(0, 0, 15, -1), 0);
-        due.is("both end", x.advance(50), 2);
-        due.is("two writings", x.revision(), 4);
-        due.is("the earlier end first", x.next(0), 3);
-        due.is("the earlier end first", x.handed(0, 0), 6);
-        due.is("the later end next", x.next(0), 4);
-        due.is("the later end next", x.handed(0, 0), 5);
-        due.is("between", x.value(5, 3), 1);
-    }
-
-    private static void advanceOrderAtOneTime() {
-        due.about("promise 20, order at one time");
-        RevisionedKeys x = new RevisionedKeys();
-        due.is("grant", x.grant(4, 9), 9);
-        due.is("grant", x.grant(2, 9), 9);
-        due.is("grant", x.grant(3, 9), 9);
-        due.is("put", x.put(1, 1, 4), 1);
-        due.is("put", x.put(8, 1, 2), 2);
-        due.is("put", x.put(7, 1, 2), 3);
-        due.is("watch", x.watch(0, 0, 15, -1), 0);
-        due.is("all end", x.advance(9), 3);
-        due.is("two writings", x.revision(), 5);
-        due.is("lease 2 first", x.next(0), 4);
-        due.is("lease 2 first", x.handed(0, 0), 7);
-        due.is("lease 2 first", x.next(0), 4);
-        due.is("lease 2 first", x.handed(0, 0), 8);
-        due.is("lease 4 next", x.next(0), 5);
-        due.is("lease 4 next", x.handed(0, 0), 1);
-    }
-
-    private static void advanceRefusals() {
-        due.about("promise 20, refusals");
-        RevisionedKeys x = new RevisionedKeys();
-        due.is("grant", x.grant(0, 1), 1);
-        due.is("-1", x.advance(-1), Due.BAD_ARG);
-        due.is("101", x.advance(101), Due.BAD_ARG);
-        for (int wild : Due.WILD) {
-            if (wild != 17) {
-                due.is("wild", x.advance(wild), Due.BAD_ARG);
-            }
-        }
-        due.is("no time went", x.remaining(0), 1);
-    }
-
-    private static void endingIsNeverRefused() {
-        due.about("leases that end are not refused");
-        RevisionedKeys x = new RevisionedKeys();
-        due.is("grant", x.grant(0, 5), 5);
-        due.is("grant", x.grant(1, 6), 6);
-        for (int i = 1; i <= 100; i++) {
-            due.is("put", x.put(i % 4, i, i % 2), i);
-        }
-        due.is("full", x.put(0, 0, -1), Due.FULL);
-        due.is("one ends by time", x.advance(5), 1);
-        due.is("remembered", x.remembered(), 102);
-        due.is("the other by revoke", x.revoke(1), 2);
-        due.is("remembered", x.remembered(), 104);
-        due.is("revision", x.revision(), 102);
-        due.is("put is refused", x.put(0, 0, -1), Due.FULL);
-        due.is("swap is refused", x.swap(0, 0, 0), Due.FULL);
-        due.is("not enough is forgotten", x.compact(4), 100);
-        due.is("put is refused", x.put(0, 0, -1), Due.FULL);
-        due.is("compact", x.compact(5), 99);
-        due.is("put", x.put(0, 0, -1), 103);
-        due.is("erase", x.erase(0, 0), Due.FULL);
-    }
-
-    private static void mostThatCanBeRemembered() {
-        due.about("116 remembered");
-        RevisionedKeys x = new RevisionedKeys();
-        due.is("grant", x.grant(0, 5), 5);
-        for (int i = 1; i <= 100; i++) {
-            due.is("put", x.put(i % 16, i, 0), i);
-        }
-        due.is("watch", x.watch(0, 0, 15, 1), 0);
-        due.is("all keys end", x.revoke(0), 16);
-        due.is("remembered", x.remembered(), 116);
-        due.is("waiting", x.waiting(0), 116);
-        for (int i = 1; i <= 116; i++) {
-            due.is("next", x.next(0), i <= 100 ? i : 101);
-        }
-        due.is("the last key", x.handed(0, 0), 15);
-        due.is("no more", x.next(0), Due.NONE);
-        due.is("count", x.count(0, 15, 101), 0);
-        due.is("count", x.count(0, 15, 100), 16);
-        due.is("compact", x.compact(100), 16);
-        due.is("compact", x.compact(101), 0);
+        s.is(6, "advance", 8).is(12, "revision").is(12, "remembered").is(0, "count", 0, 15, -1);
     }
 }
