@@ -207,9 +207,9 @@ public final class KeysTest {
 
     static void swapTestsInOrder() {
         Story s = story(3, "Tested in this order: NONE if that is not so; FULL.").crowded();
-        s.changesNothing(Due.NONE, "swap", 13, 102, 5).changesNothing(Due.NONE, "swap", 13, 0, 5);
-        s.changesNothing(Due.NONE, "swap", 13, 88, 5).changesNothing(Due.NONE, "swap", 15, 2, 5);
-        s.changesNothing(Due.FULL, "swap", 13, 103, 5).changesNothing(Due.FULL, "swap", 15, 0, 5);
+        s.changesNothing(Due.NONE, "swap", 1, 102, 5).changesNothing(Due.NONE, "swap", 1, 0, 5);
+        s.changesNothing(Due.NONE, "swap", 1, 88, 5).changesNothing(Due.NONE, "swap", 15, 2, 5);
+        s.changesNothing(Due.FULL, "swap", 1, 103, 5).changesNothing(Due.FULL, "swap", 15, 0, 5);
     }
 
     static void swapAnswersTheNewRevision() {

@@ -97,7 +97,8 @@ final class Story {
     /**
      * A full store: revisions 4 to 103 are remembered. Keys 0 to 14 exist, leases 0 and 1 are open.
      * Watch 0 has handed out one of them, watch 1 is lost and handed none out, watch 2 waits for
-     * changes of key 15, watch 3 is not in use.
+     * changes of key 15, watch 3 is not in use. Keys are put in falling order, so that a place
+     * among changes that is wrong by one revision passes over a change.
      */
     Story crowded() {
         is(5, "grant", 0, 5).is(9, "grant", 1, 9);
@@ -105,7 +106,7 @@ final class Story {
         is(0, "watch", 1, 0, 15, 1).is(0, "watch", 2, 15, 15, 1).is(1, "next", 2).is(2, "next", 2);
         is(0, "compact", 3).is(0, "watch", 0, 0, 15, 4).is(0, "advance", 2);
         for (int r = 4; r <= 103; r++) {
-            is(r, "put", r % 15, r, r % 3 - 1);
+            is(r, "put", 14 - r % 15, r, r % 3 - 1);
         }
         return is(4, "next", 0);
     }

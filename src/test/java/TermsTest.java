@@ -146,7 +146,8 @@ public final class TermsTest {
         for (int i = 1; i <= 116; i++) {
             s.is(i <= 100 ? i : 101, "next", 0).is(i <= 100 ? i % 16 : i - 101, "handed", 0, 0);
         }
-        s.is(0, "waiting", 0).is(16, "count", 0, 15, 100).is(0, "count", 0, 15, 101);
+        s.is(0, "waiting", 0).is(Due.NONE, "next", 0);
+        s.is(16, "count", 0, 15, 100).is(0, "count", 0, 15, 101);
         s.is(16, "compact", 100).is(0, "compact", 101);
     }
 
@@ -431,7 +432,7 @@ public final class TermsTest {
         s.changesNothing(Due.BAD_ARG, "put", 16, 5, 0).changesNothing(Due.BAD_ARG, "put", 4, 5, 6);
         s.changesNothing(Due.NONE, "put", 4, 5, 2).changesNothing(Due.FULL, "put", 4, 5, 0);
         s.changesNothing(Due.BAD_ARG, "swap", 16, 0, 5).changesNothing(Due.NONE, "swap", 4, 4, 5);
-        s.changesNothing(Due.FULL, "swap", 4, 94, 5).changesNothing(Due.FULL, "swap", 15, 0, 5);
+        s.changesNothing(Due.FULL, "swap", 4, 100, 5).changesNothing(Due.FULL, "swap", 15, 0, 5);
         s.changesNothing(Due.BAD_ARG, "erase", 0, 16).changesNothing(Due.NONE, "erase", 15, 15);
         s.changesNothing(Due.FULL, "erase", 0, 15).changesNothing(Due.FORGOTTEN, "compact", 2);
         s.changesNothing(Due.LATER, "compact", 104);
@@ -452,7 +453,7 @@ public final class TermsTest {
         s.changesNothing(Due.BAD_ARG, "set", 16).changesNothing(Due.NONE, "set", 15);
         s.changesNothing(Due.BAD_ARG, "version", 16).changesNothing(Due.NONE, "version", 15);
         s.changesNothing(Due.BAD_ARG, "leaseOf", 16).changesNothing(Due.NONE, "leaseOf", 15);
-        s.changesNothing(Due.NONE, "leaseOf", 0);
+        s.changesNothing(Due.NONE, "leaseOf", 2);
     }
 
     static void aRefusedCallOfLeasesChangesNothing() {
@@ -484,16 +485,15 @@ public final class TermsTest {
     static void aCallThatOnlyAsksChangesNothing() {
         Story s = story("Nothing is promised beyond the answers and state changes described above");
         s.crowded().changesNothing(103, "revision").changesNothing(100, "remembered");
-        s.changesNothing(103, "value", 13, -1).changesNothing(50, "value", 5, 50);
+        s.changesNothing(103, "value", 1, -1).changesNothing(50, "value", 9, 50);
         s.changesNothing(15, "count", 0, 15, -1).changesNothing(7, "keyAt", 0, 15, 7, 50);
-        s.changesNothing(13, "made", 13).changesNothing(103, "set", 13);
-        s.changesNothing(7, "version", 13).changesNothing(0, "leaseOf", 13);
+        s.changesNothing(13, "made", 1).changesNothing(103, "set", 1);
+        s.changesNothing(7, "version", 1).changesNothing(0, "leaseOf", 1);
         s.changesNothing(3, "remaining", 0).changesNothing(5, "keysOf", 0);
         s.changesNothing(99, "waiting", 0).changesNothing(0, "waiting", 2);
-        for (int what = 0; what <= 2; what++) {
-            s.changesNothing(what == 1 ? 1 : 4, "handed", 0, what);
-            s.changesNothing(what == 0 ? 15 : 0, "handed", 2, what);
-        }
+        s.changesNothing(10, "handed", 0, 0).changesNothing(15, "handed", 2, 0);
+        s.changesNothing(1, "handed", 0, 1).changesNothing(0, "handed", 2, 1);
+        s.changesNothing(4, "handed", 0, 2).changesNothing(0, "handed", 2, 2);
         s.changesNothing(100, "compact", 3).changesNothing(0, "advance", 0);
     }
 
