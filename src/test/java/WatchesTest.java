@@ -136,12 +136,16 @@ public final class WatchesTest {
         s.is(6, "next", 0);
     }
 
+    private static void isNoneIfNotInUse(int promise, String call) {
+        Story s = five(promise, "NONE if it is not in use").changesNothing(Due.NONE, call, 0);
+        s.changesNothing(Due.NONE, call, 3).is(0, "watch", 0, 0, 15, 1).is(0, "unwatch", 0);
+        s.changesNothing(Due.NONE, call, 0);
+        lost(promise, "NONE if it is not in use").is(1, "unwatch", 0)
+                .changesNothing(Due.NONE, call, 0);
+    }
+
     static void nextIsNoneIfNotInUse() {
-        Story s = five(23, "NONE if it is not in use").changesNothing(Due.NONE, "next", 0);
-        s.changesNothing(Due.NONE, "next", 3).is(0, "watch", 0, 0, 15, 1).is(0, "unwatch", 0);
-        s.changesNothing(Due.NONE, "next", 0);
-        lost(23, "NONE if it is not in use").is(1, "unwatch", 0)
-                .changesNothing(Due.NONE, "next", 0);
+        isNoneIfNotInUse(23, "next");
     }
 
     static void nextIsNoneIfThereIsNoneYet() {
@@ -248,11 +252,7 @@ public final class WatchesTest {
     }
 
     static void waitingIsNoneIfNotInUse() {
-        Story s = five(25, "NONE if it is not in use").changesNothing(Due.NONE, "waiting", 0);
-        s.changesNothing(Due.NONE, "waiting", 3).is(0, "watch", 0, 0, 15, 1).is(0, "unwatch", 0);
-        s.changesNothing(Due.NONE, "waiting", 0);
-        lost(25, "NONE if it is not in use").is(1, "unwatch", 0)
-                .changesNothing(Due.NONE, "waiting", 0);
+        isNoneIfNotInUse(25, "waiting");
     }
 
     static void waitingIsForgottenIfLost() {
